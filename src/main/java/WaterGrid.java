@@ -1028,7 +1028,7 @@ public final class WaterGrid {
             fault = NONE;
         }
 
-        void skipBlanks() {
+        private void skipBlanks() {
             for (int i = at; i < length; i++) {
                 if (bytes[i] != 9 && bytes[i] != 10 && bytes[i] != 32) {
                     break;
@@ -1037,7 +1037,9 @@ public final class WaterGrid {
             }
         }
 
+        /** Whether nothing but blanks comes any more. */
         boolean isAtEnd() {
+            skipBlanks();
             return at >= length;
         }
 
@@ -1083,9 +1085,9 @@ public final class WaterGrid {
         }
 
         boolean takeMark() {
-            skipBlanks();
+            boolean none = isAtEnd();
             began = at;
-            if (isAtEnd() || bytes[at] != ';') {
+            if (none || bytes[at] != ';') {
                 return refuse();
             }
             at++;
@@ -1115,7 +1117,11 @@ public final class WaterGrid {
         /** The grid; null, if the text is wrong. */
         Grid parse() {
             text.restart();
-            if (!takeSize() || !takeLines()) {
+            boolean right = takeSize();
+            for (int i = 0; i < MOST_BYTES && right && !text.isAtEnd(); i++) {
+                right = takeLine() && text.takeMark();
+            }
+            if (!right) {
                 return null;
             }
             Grid grid = new Grid(columns, rows, toldOpen, toldShut, stones);
@@ -1137,19 +1143,6 @@ public final class WaterGrid {
             }
             rows = text.takeNumber(1, SIDE);
             return rows != NONE && text.takeMark();
-        }
-
-        private boolean takeLines() {
-            for (int i = 0; i < MOST_BYTES; i++) {
-                text.skipBlanks();
-                if (text.isAtEnd()) {
-                    return true;
-                }
-                if (!takeLine() || !text.takeMark()) {
-                    return false;
-                }
-            }
-            return true;
         }
 
         private boolean takeLine() {
@@ -1225,19 +1218,19 @@ public final class WaterGrid {
             }
             if (columns != newColumns) {
                 columns = newColumns;
-                makeStates();
+                codes[0] = 0;
+                size = 1;
+                for (int x = 0; x < columns; x++) {
+                    addCell(x);
+                }
+                findWetCells();
                 makeMoves();
             }
             rows = newRows;
             makeSteps();
         }
 
-        private void makeStates() {
-            codes[0] = 0;
-            size = 1;
-            for (int x = 0; x < columns; x++) {
-                addCell(x);
-            }
+        private void findWetCells() {
             for (int s = 0; s < size; s++) {
                 wetCells[s] = 0;
                 for (int x = 0; x < columns; x++) {
@@ -1328,13 +1321,14 @@ public final class WaterGrid {
             int fresh = 1;
             int names = 0;
             for (int i = 0; i < columns; i++) {
-                int label = labelIn(code, i);
+                int shift = 3 * (SIDE - 1 - i);
+                int label = code >>> shift & 7;
                 if (label != 0) {
                     if ((names >>> 4 * label & 15) == 0) {
                         names |= fresh << 4 * label;
                         fresh++;
                     }
-                    next |= (names >>> 4 * label & 15) << shiftOf(i);
+                    next |= (names >>> 4 * label & 15) << shift;
                 }
             }
             return next;
@@ -1381,12 +1375,14 @@ public final class WaterGrid {
         /** The state of the top row ahead of all pipes: all is wet but stones. */
         int start(Grid grid) {
             int code = 0;
+            int fresh = 1;
             for (int x = 0; x < columns; x++) {
                 if (grid.isStone(Grid.numberOf(x, 0, false))) {
-                    code |= x + 1 << shiftOf(x);
+                    code |= fresh << shiftOf(x);
+                    fresh++;
                 }
             }
-            return indexOf(renumbered(code));
+            return indexOf(code);
         }
 
         /** Whether a pipe moves states when it is open (right), not when it is shut (down). */
