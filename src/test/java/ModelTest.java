@@ -59,7 +59,24 @@ public final class ModelTest {
             }
             if (!same(method.getName(), arguments(method))) return false;
         }
-        return true;
+        return model.count(2) > MOST_FREE || sweep();
+    }
+
+    /** All states of all rows, one behind the last, too; and all that is told by so many open pipes. */
+    private boolean sweep() throws Exception {
+        for (int row = 0; row < model.count(1); row++) {
+            int states = model.states(row);
+            for (int k = 0; k <= states; k++) {
+                for (int x = 0; x < model.count(0); x++) if (!same("state", row, k, x)) return false;
+                if (!same("ways", row, k, random.nextInt(5))) return false;
+            }
+            if (!same("likeliest", row, false) || !same("likeliest", row, true)) return false;
+            for (int n = 0; n < 6; n++) if (!same("parted", row, n) || !same("reaches", row, n)) return false;
+        }
+        for (int k = 0; k <= model.count(2); k++) {
+            if (!same("joins", k) || !same("bars", k) || !same("choices", k) || !same("tried", k, k)) return false;
+        }
+        return same("just", -1) && same("alike") && same("mean", true) && same("mean", false);
     }
 
     private boolean tooMany(String name) {

@@ -136,6 +136,14 @@ public final class PromiseTest {
         fault("grit 2 2;", 0);
         fault(" gridd 2 2;", 1);
         fault("gri", 0);
+        fault("xrid 2 2;", 0);
+        fault("gridz 2 2;", 0);
+        fault("grid 29 2;", 5);
+        fault("grid 2 2;xpen 0 0 right;", 9);
+        fault("grid 2 2;xhut 0 0 right;", 9);
+        fault("grid 2 2;xtone 0 0;", 9);
+        fault("grid 2 2;open 0 0 xight;", 18);
+        fault("grid 2 2;open 0 0 xown;", 18);
         fault("Grid 2 2;", 0);
         fault("grid", 4);
         fault("grid ;", 5);
@@ -362,6 +370,7 @@ public final class PromiseTest {
         WaterGrid stony = Check.grid("grid 5 2;stone 1 1;stone 3 1;open 0 0 down;shut 2 0 down;");
         due("16 stones", stony.states(1), 2);
         due("17 stones are 9, numbers go on", state(stony, 1, 0) + " " + state(stony, 1, 1), "09190 09192");
+        due("17 a stone ahead of all", state(Check.grid("grid 3 2;stone 0 1;shut 1 0 down;shut 2 0 down;"), 1, 1), "912");
         WaterGrid top = Check.grid("grid 3 2;stone 1 0;");
         due("17 a stone at the top", state(top, 0, 0), "090");
         due("16 all of three cells but those that cross", Check.grid("grid 3 3;").states(2), 14);
@@ -370,6 +379,7 @@ public final class PromiseTest {
         due("25 choices", g.likeliest(1, true), 8);
         due("25 of several the first", Check.grid("grid 1 2;").likeliest(1, false), 0);
         due("25 how many of several", Check.grid("grid 1 2;").likeliest(1, true), 1);
+        due("25 behind one of one choice", Check.grid("grid 1 3;").likeliest(2, false), 1);
         due("25 another", Check.grid("grid 2 2;shut 0 0 down;shut 1 0 down;shut 0 1 right;").likeliest(1, true), 2);
         due("25 not the first", Check.grid("grid 2 3;shut 0 1 down;").likeliest(2, false), 2);
         due("25 22 choices each to 11 and to 12", Check.grid("grid 2 3;shut 0 1 down;").likeliest(2, true), 22);
