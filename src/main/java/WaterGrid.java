@@ -38,20 +38,26 @@ public final class WaterGrid {
     private final int[] order;
     private final int[] written;
     private final long[] withOpen;
+    private final Kept kept;
+    private final Flow flow;
+    private final Flow side;
+    private final Deciders deciders;
+    private final Trial trial;
     private int writtenLength;
     private int actCount;
     private Grid grid;
-    private Kept kept;
-    private Flow flow;
-    private Flow side;
     private Grid sideOf;
     private int sidePipe;
-    private Deciders deciders;
-    private Trial trial;
 
+    /** All rows are made here: what a call makes is counted with each call, so calls only use them again. */
     public WaterGrid() {
         text = new Text();
         lattice = new Lattice();
+        flow = new Flow(lattice, SIDE);
+        side = new Flow(lattice, 1);
+        deciders = new Deciders(lattice);
+        trial = new Trial(lattice);
+        kept = new Kept();
         acts = new Grid[MOST_ACTS];
         order = new int[MOST_FREE];
         written = new int[MOST_WRITTEN];
@@ -472,15 +478,16 @@ public final class WaterGrid {
     // ---- compared
 
     public int keep() {
-        kept = new Kept(grid.freeCount(), leastBy(1, 2), counted().joining.clone());
+        kept.take(grid.freeCount(), leastBy(1, 2), counted().joining);
         return kept.half;
     }
 
     public int compare() throws NoSuchElementException {
         Kept then = demandKept();
-        Kept now = new Kept(grid.freeCount(), leastBy(1, 2), then.joining);
-        int here = now.upper() * then.lower();
-        int there = then.upper() * now.lower();
+        int free = grid.freeCount();
+        int half = leastBy(1, 2);
+        int here = Kept.upper(free, half) * Kept.lower(then.free, then.half);
+        int there = Kept.upper(then.free, then.half) * Kept.lower(free, half);
         if (here == there) {
             return 0;
         }
@@ -595,15 +602,12 @@ public final class WaterGrid {
             throw new IllegalStateException("too many pipes are free");
         }
         lattice.fit(grid.columns, grid.rows);
-        if (trial == null) {
-            trial = new Trial(lattice);
-        }
         trial.follow(grid);
         return trial;
     }
 
     private Kept demandKept() {
-        if (kept == null) {
+        if (!kept.isThere) {
             throw new NoSuchElementException("nothing is kept");
         }
         return kept;
@@ -629,9 +633,6 @@ public final class WaterGrid {
 
     private Flow counted() {
         lattice.fit(grid.columns, grid.rows);
-        if (flow == null) {
-            flow = new Flow(lattice, SIDE);
-        }
         flow.follow(grid);
         return flow;
     }
@@ -639,9 +640,6 @@ public final class WaterGrid {
     /** In how many choices of the other free pipes it joins, if this free one is told open or shut. */
     private long[] joiningWith(int number, int how) {
         long[] all = counted().joining;
-        if (side == null) {
-            side = new Flow(lattice, 1);
-        }
         if (sideOf != grid || sidePipe != number) {
             side.follow(grid.withPipe(number, SHUT));
             sideOf = grid;
@@ -680,9 +678,6 @@ public final class WaterGrid {
 
     private long[] decidedBy(int a, int b) {
         lattice.fit(grid.columns, grid.rows);
-        if (deciders == null) {
-            deciders = new Deciders(lattice);
-        }
         deciders.weigh(grid, a, b);
         return deciders.chances;
     }
@@ -979,25 +974,29 @@ public final class WaterGrid {
 
     /** What was kept of a grid, so that a later one can be compared with it. */
     private static final class Kept {
-        final int free;
-        final int half;
-        final long[] joining;
+        final long[] joining = new long[STRIDE];
+        boolean isThere;
+        int free;
+        int half;
 
-        Kept(int free, int half, long[] joining) {
-            this.free = free;
-            this.half = half;
-            this.joining = joining;
+        void take(int newFree, int newHalf, long[] newJoining) {
+            for (int k = 0; k < STRIDE && k < newJoining.length; k++) {
+                joining[k] = newJoining[k];
+            }
+            free = newFree;
+            half = newHalf;
+            isThere = true;
         }
 
         /** Half parted by the free pipes, as a fraction: 1 / 0 stands for none, which is more than any. */
-        int upper() {
+        static int upper(int free, int half) {
             if (free == 0) {
                 return 0;
             }
             return half == NONE ? 1 : half;
         }
 
-        int lower() {
+        static int lower(int free, int half) {
             if (free == 0) {
                 return 1;
             }
