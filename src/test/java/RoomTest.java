@@ -12,8 +12,13 @@ public final class RoomTest {
     private static final long ROOM_ELEMENTS = 7_300_000L;
     private static final long CALLS = 512L;
     private static final String TEXT = "grid 5 5;stone 1 1;stone 3 3;stone 1 3;stone 3 1;";
+    /** 24 pipes are free, and one more would be if the pipe down from (0, 0) were told so. */
+    private static final String FULL = "grid 5 4;shut 0 0 down;shut 1 0 down;shut 0 1 right;shut 1 1 right;"
+            + "shut 2 1 right;shut 3 1 right;shut 0 2 right;";
     /** An empty text: the object is as it is made. The others: most states, most free pipes, most that is tried. */
-    private static final String[] TEXTS = {"", TEXT, "grid 4 4;", "grid 3 3;", "grid 5 2;", "grid 1 5;", "grid 5 1;"};
+    private static final String[] TEXTS = {"", TEXT, FULL, "grid 4 4;", "grid 3 3;", "grid 5 2;", "grid 1 5;", "grid 5 1;"};
+    /** What stands on the tape, to be read: nothing, right texts, one with too many free pipes, a wrong one. */
+    private static final String[] TAPES = {"", TEXT, "grid 5 5;", "grid 3 3;", "grid 6"};
 
     private interface Call { void on(WaterGrid grid, int i); }
 
@@ -28,7 +33,7 @@ public final class RoomTest {
         new Kind("pipe", (g, i) -> g.pipe(i, 0, true)),
         new Kind("stone", (g, i) -> g.stone(i, i)),
         new Kind("tell", (g, i) -> g.tell(0, 0, i < 3, i)),
-        new Kind("put", (g, i) -> g.put(i / 2, 0, i != 1)),
+        new Kind("put", (g, i) -> g.put(i % 2, i % 2, i != 1)),
         new Kind("turn", (g, i) -> g.turn(i)),
         new Kind("drain", (g, i) -> g.drain(i, i, 3)),
         new Kind("undo", (g, i) -> g.undo()),
@@ -108,8 +113,10 @@ public final class RoomTest {
         for (String text : TEXTS) {
             // The first round is not counted: the machine itself makes some things the first time.
             for (int round = 0; round < 2; round++) {
-                for (int first = 0; first < 5; first++) {
-                    long made = firstAndLater(kind, prepared(text), first);
+                for (int first = 0; first < TAPES.length; first++) {
+                    WaterGrid grid = text.isEmpty() ? new WaterGrid() : Check.grid(text);
+                    Check.feed(grid, TAPES[first]);
+                    long made = firstAndLater(kind, grid, first);
                     if (round > 0) most = Math.max(most, made);
                 }
             }
@@ -124,8 +131,6 @@ public final class RoomTest {
         grid.turn(2);
         return Math.max(most, bytesOf(kind.call, grid, first));
     }
-
-    private static WaterGrid prepared(String text) { return text.isEmpty() ? new WaterGrid() : Check.grid(text); }
 
     private static long bytesOf(Call call, WaterGrid grid, int i) {
         long before = BEAN.getCurrentThreadAllocatedBytes();
