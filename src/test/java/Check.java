@@ -27,6 +27,15 @@ final class Check {
         }
     }
 
+    /** What a call answers; the name of the exception, if it throws one. */
+    static String answer(Callable<?> call) {
+        try {
+            return String.valueOf(call.call());
+        } catch (Exception e) {
+            return e.getClass().getSimpleName();
+        }
+    }
+
     void finish(String name) {
         System.out.println(name + ": " + asked + " answers, " + wrong + " not as due");
         if (wrong > 0) System.exit(1);
