@@ -31,6 +31,7 @@ final class EdgeChance extends Edges {
         half();
         decides();
         leader();
+        leaders();
         rank();
         toOpen();
         toShut();
@@ -270,6 +271,32 @@ final class EdgeChance extends Edges {
         due("always open: the column's first", grid("grid 2 2;shut 0 0 right;shut 1 0 down;shut 0 1 right;").leader(6, 6), 1);
     }
 
+    /**
+     * One of pipes 3 and 5, then pipe 23 or a way of two at its left or right. By small chances 23 decides most, as
+     * (2p - pp)(1 - pp)(1 - pp), by great ones 3, as (1 - p)(1 - (1 - p)(1 - pp)(1 - pp)).
+     */
+    private void leaders() {
+        term("LEADER by a CHANCE: the FREE PIPE that DECIDES with the greatest chance");
+        String text = "grid 3 4;shut 0 0 right;shut 0 0 down;shut 1 0 right;open 0 1 right;shut 0 1 down;open 1 1 right;"
+                + "open 1 1 down;shut 2 1 down;";
+        WaterGrid used = grid(text);
+        for (int round = 0; round < 2; round++) {
+            due("1, 3, 5 of 6", used.leader(1, 6) + " " + used.leader(3, 6) + " " + used.leader(5, 6), "23 23 3");
+            due("1, 5 of 6, again", used.leader(1, 6) + " " + used.leader(5, 6), "23 3");
+            due("1 of 5, of 6, of 2", used.leader(1, 5) + " " + used.leader(1, 6) + " " + used.leader(1, 2), "23 23 23");
+            due("1 of 3, then 1 of 1", used.leader(1, 3) + " " + used.leader(1, 1), "23 3");
+            due("1 of 6, then 1 of 1", used.leader(1, 6) + " " + used.leader(1, 1), "23 3");
+            due("1 of 1, then 1 of 6", used.leader(1, 1) + " " + used.leader(1, 6), "3 23");
+            due("rank by 5, 1 of 6", used.rank(1, 2, true, 5, 6) + " " + used.rank(1, 2, true, 1, 6), "2 0");
+            due("rank of the other", used.rank(1, 0, true, 5, 6) + " " + used.rank(1, 0, true, 1, 6), "0 1");
+            due("never open, always open", used.leader(0, 6) + " " + used.leader(6, 6), "3 3");
+        }
+        used.tell(2, 0, true, 2);
+        due("without 5 all ways need 3", used.leader(1, 6) + " " + used.leader(5, 6), "3 3");
+        used.undo();
+        due("undone", used.rank(1, 2, true, 5, 6), 2);
+    }
+
     private void rank() {
         promise(38, "How many FREE PIPES DECIDE with a greater chance than a FREE one. IllegalArgumentException: the CHANCE is none; IllegalStateException: it is not FREE.");
         WaterGrid g = grid(SQUARE);
@@ -325,6 +352,8 @@ final class EdgeChance extends Edges {
         due("the last but one", drawnBy(grid("grid 1 5;shut 0 3 down;"), 1, 1, 1), "0 4 3 3");
         due("24 free, all open", drawnBy(grid(FULL), LEAST, 6, 6), "1 16 24 3");
         due("told open ones are not drawn", drawnBy(grid("grid 1 3;open 0 0 down;"), 1, 0, 1), "0 2 0 1");
+        due("water goes up, too", drawnBy(grid("grid 2 3;open 0 0 down;open 0 1 down;open 0 2 right;open 1 1 down;shut 0 1 right;"
+                + "shut 1 0 down;"), 1, 0, 1), "1 6 0 2");
         due("nothing is told", g.count(2) + " " + g.count(6), "4 0");
     }
 

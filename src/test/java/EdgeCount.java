@@ -159,8 +159,10 @@ final class EdgeCount extends Edges {
         }
         term("0, if it is WET by these PIPES; 9 of a STONE; else 1, 2, .. , the same of those that are JOINED by these PIPES, as they come first.");
         due("stones are no numbers", digits(grid("grid 5 2;stone 1 1;stone 3 1;open 2 0 down;shut 0 0 down;shut 4 0 down;"), 1, 0), "19092");
-        due("five numbers", digits(grid("grid 5 2;shut 0 0 down;shut 1 0 down;shut 2 0 down;shut 3 0 down;shut 4 0 down;"
+        due("five numbers, and a stone in the next row", digits(grid("grid 5 3;stone 0 2;shut 0 0 down;shut 1 0 down;shut 2 0 down;shut 3 0 down;shut 4 0 down;"
                 + "shut 0 1 right;shut 1 1 right;shut 2 1 right;shut 3 1 right;"), 1, 0), "12345");
+        WaterGrid ahead = grid("grid 3 2;stone 0 1;shut 1 0 down;shut 2 0 down;");
+        due("a stone ahead of all numbers", digits(ahead, 1, 0) + " " + digits(ahead, 1, 1), "911 912");
         due("five stones", digits(grid("grid 5 1;stone 0 0;stone 1 0;stone 2 0;stone 3 0;stone 4 0;"), 0, 0), "99999");
         due("a row of one state by these pipes, wet from below alone",
                 digits(grid("grid 2 3;open 0 0 down;open 0 1 down;open 0 2 right;open 1 1 down;shut 0 1 right;shut 1 0 down;"), 1, 0), "01");

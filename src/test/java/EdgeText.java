@@ -77,6 +77,8 @@ final class EdgeText extends Edges {
         fault(padded("grid 2 2;", 400, "open 0 1"), 400);
         fault(padded("grid 2 2;", 399, "open 0 1"), 399);
         fault(" ".repeat(400), 400);
+        for (String cut : new String[] {"grid", "grid 2", "grid 2 2"}) fault(padded("", 400, cut), 400);
+        for (String cut : new String[] {"open", "shut 0", "stone", "stone 0", "stone 0 0"}) fault(padded("grid 2 2;", 400, cut), 400);
         fault("g".repeat(400), 0);
         fault("grid " + "1".repeat(395), 5);
         fault(padded(withFree(5, 5, 25, "shut"), 400, ""), 400);
@@ -279,8 +281,9 @@ final class EdgeText extends Edges {
     private static String[] wrongFor(String token) {
         if (token.equals(";")) return new String[] {",", ":", "<", "x", "7", "."};
         if (Character.isDigit(token.charAt(0))) return new String[] {"6", "9", "00", "12", "x", ";", "#", "right"};
-        return new String[] {token + "x", "x" + token, token.substring(1), token.substring(0, token.length() - 1),
-            token.toUpperCase(), "1", ";", "#", "left"};
+        String tail = token.substring(1);
+        String head = token.substring(0, token.length() - 1);
+        return new String[] {token + "x", "x" + token, tail, head, "x" + tail, head + "x", token.toUpperCase(), "1", ";", "#", "left"};
     }
 
     private void faultsOfPipes() {
@@ -368,6 +371,14 @@ final class EdgeText extends Edges {
         due("the first nine", g.end(9), true);
         due("no tenth", g.end(10), false);
         due("the first nine are read", g.read(), 1);
+        String whole = "grid 2 2;stone 1 1;open 0 0 right;shut 0 0 down;";
+        for (int n = 0; n <= whole.length(); n++) {
+            WaterGrid cut = new WaterGrid();
+            Check.feed(cut, whole);
+            cut.end(n);
+            Check.answer(cut::read);
+            due("what was cut off behind " + n + " is not read", cut.fault(), Check.faultOf(whole.substring(0, n)));
+        }
         Check.feed(g, "grid 2 1;");
         due("to nothing", g.end(0), true);
         refused("nothing to read", ARGUMENT, g::read);

@@ -3,9 +3,13 @@ import java.math.BigInteger;
 /** Grids with as many free pipes as may be: all 2 to the 24 choices are tried, so that nothing can overflow unseen. */
 public final class LargeTest {
     private static final int FREE = 24;
+    /** An object is used for at most 512 calls: so many, and those that read the text. */
+    private static final int USES = 480;
 
     private final Check check = new Check();
-    private final WaterGrid grid;
+    private final String text;
+    private WaterGrid grid;
+    private int uses;
     private final int columns;
     private final int rows;
     /** Ends of the free pipes, as bits of cells 5 y + x, and their numbers. */
@@ -15,9 +19,9 @@ public final class LargeTest {
     private final byte[] wet = new byte[1 << FREE];
 
     private LargeTest(String text) {
-        grid = Check.grid(text);
-        columns = grid.count(0);
-        rows = grid.count(1);
+        this.text = text;
+        columns = grid().count(0);
+        rows = grid().count(1);
         int found = 0;
         for (int y = 0; y < rows; y++) {
             for (int x = 0; x < columns; x++) {
@@ -26,7 +30,7 @@ public final class LargeTest {
                     int toY = y + d;
                     if (toX >= columns || toY >= rows) continue;
                     int both = 1 << 5 * y + x | 1 << 5 * toY + toX;
-                    int status = grid.pipe(x, y, d == 1);
+                    int status = grid().pipe(x, y, d == 1);
                     if (status == 0) {
                         numbers[found] = 10 * y + 2 * x + d;
                         ends[found++] = both;
@@ -38,6 +42,11 @@ public final class LargeTest {
             }
         }
         check.due("free pipes", found, FREE);
+    }
+
+    private WaterGrid grid() {
+        if (uses++ % USES == 0) grid = Check.grid(text);
+        return grid;
     }
 
     public static void main(String[] args) {
@@ -57,7 +66,7 @@ public final class LargeTest {
 
     private void tryAll() {
         int top = 0;
-        for (int x = 0; x < columns; x++) if (!grid.stone(x, 0)) top |= 1 << x;
+        for (int x = 0; x < columns; x++) if (!grid().stone(x, 0)) top |= 1 << x;
         for (int c = 0; c < wet.length; c++) {
             int cells = top;
             for (int before = 0; before != cells;) {
@@ -81,13 +90,13 @@ public final class LargeTest {
     private void joins() {
         long[] joins = counts(-1);
         for (int k = 0; k <= FREE; k++) {
-            check.due("joins " + k, grid.joins(k), joins[k]);
-            check.due("bars " + k, grid.bars(FREE - k), grid.choices(k) - joins[k]);
-            check.due("reaches " + k, grid.reaches(rows - 1, k), joins[k]);
+            check.due("joins " + k, grid().joins(k), joins[k]);
+            check.due("bars " + k, grid().bars(FREE - k), grid().choices(k) - joins[k]);
+            check.due("reaches " + k, grid().reaches(rows - 1, k), joins[k]);
         }
         for (int set : new int[] {0, 1, 5, (1 << columns) - 1}) {
             long[] found = counts(set);
-            for (int k = 0; k <= FREE; k++) check.due("wet " + set + " " + k, grid.wet(set, k), found[k]);
+            for (int k = 0; k <= FREE; k++) check.due("wet " + set + " " + k, grid().wet(set, k), found[k]);
         }
     }
 
@@ -113,10 +122,10 @@ public final class LargeTest {
             for (int a = 0; a <= b; a++) {
                 BigInteger all = BigInteger.valueOf(b).pow(FREE);
                 BigInteger upper = weigh(joins, FREE, a, b);
-                fraction("value " + a + " " + b, upper, all, grid.value(a, b, false), grid.value(a, b, true));
-                fraction("barred", all.subtract(upper), all, grid.barred(a, b, false), grid.barred(a, b, true));
+                fraction("value " + a + " " + b, upper, all, grid().value(a, b, false), grid().value(a, b, true));
+                fraction("barred", all.subtract(upper), all, grid().barred(a, b, false), grid().barred(a, b, true));
                 if (b == 6) continue;
-                fraction("wetness " + a + " " + b, weigh(cells, FREE, a, b), all, grid.wetness(a, b, false), grid.wetness(a, b, true));
+                fraction("wetness " + a + " " + b, weigh(cells, FREE, a, b), all, grid().wetness(a, b, false), grid().wetness(a, b, true));
                 depth(a, b);
             }
         }
@@ -129,21 +138,21 @@ public final class LargeTest {
             int here = 0;
             for (int number : numbers) if (number / 10 + number % 2 <= row) here++;
             long[] counts = new long[FREE + 1];
-            for (int k = 0; k <= FREE; k++) counts[k] = grid.reaches(row, k);
+            for (int k = 0; k <= FREE; k++) counts[k] = grid().reaches(row, k);
             upper = upper.add(weigh(counts, here, a, b).multiply(BigInteger.valueOf(b).pow(FREE - here)));
         }
-        fraction("depth " + a + " " + b, upper, BigInteger.valueOf(b).pow(FREE), grid.depth(a, b, false), grid.depth(a, b, true));
+        fraction("depth " + a + " " + b, upper, BigInteger.valueOf(b).pow(FREE), grid().depth(a, b, false), grid().depth(a, b, true));
     }
 
     private void mean(long[] joins) {
         BigInteger upper = BigInteger.ZERO;
         BigInteger lower = BigInteger.ONE;
         for (int k = 0; k < FREE; k++) {
-            BigInteger all = BigInteger.valueOf(grid.choices(k));
+            BigInteger all = BigInteger.valueOf(grid().choices(k));
             upper = upper.multiply(all).add(lower.multiply(all.subtract(BigInteger.valueOf(joins[k]))));
             lower = lower.multiply(all);
         }
-        fraction("mean", upper, lower, grid.mean(false), grid.mean(true));
+        fraction("mean", upper, lower, grid().mean(false), grid().mean(true));
     }
 
     private void deciders() {
@@ -154,7 +163,7 @@ public final class LargeTest {
                 if ((c & bit) == 0 && wet[c | bit] != 0 && wet[c] == 0) decided[i][Integer.bitCount(c)]++;
             }
             for (int k = 0; k < FREE; k++) {
-                check.due("decides " + numbers[i] + " " + k, grid.decides(x(i), y(i), isDown(i), k), decided[i][k]);
+                check.due("decides " + numbers[i] + " " + k, grid().decides(x(i), y(i), isDown(i), k), decided[i][k]);
             }
         }
         for (int b = 1; b <= 6; b++) {
@@ -176,18 +185,18 @@ public final class LargeTest {
             if (chance[i].compareTo(chance[leader]) > 0) leader = i;
             int greater = 0;
             for (BigInteger other : chance) if (other.compareTo(chance[i]) > 0) greater++;
-            check.due("rank " + numbers[i] + " " + a + " " + b, grid.rank(x(i), y(i), isDown(i), a, b), greater);
+            check.due("rank " + numbers[i] + " " + a + " " + b, grid().rank(x(i), y(i), isDown(i), a, b), greater);
             for (int how = 1; how <= 2; how++) would(i, how, a, b, chance[i]);
         }
-        check.due("leader " + a + " " + b, grid.leader(a, b), numbers[leader]);
+        check.due("leader " + a + " " + b, grid().leader(a, b), numbers[leader]);
     }
 
     /** Value is a parts of what it is with the pipe open and b - a of what it is with it shut; they differ by the chance to decide. */
     private void would(int i, int how, int a, int b, BigInteger chance) {
         BigInteger all = BigInteger.valueOf(b).pow(FREE);
-        BigInteger value = all.multiply(BigInteger.valueOf(grid.value(a, b, false))).divide(BigInteger.valueOf(grid.value(a, b, true)));
+        BigInteger value = all.multiply(BigInteger.valueOf(grid().value(a, b, false))).divide(BigInteger.valueOf(grid().value(a, b, true)));
         BigInteger shift = chance.multiply(BigInteger.valueOf(how == 1 ? b - a : -a));
         fraction("would " + numbers[i] + " " + how, value.add(shift), all,
-                grid.would(x(i), y(i), isDown(i), how, a, b, false), grid.would(x(i), y(i), isDown(i), how, a, b, true));
+                grid().would(x(i), y(i), isDown(i), how, a, b, false), grid().would(x(i), y(i), isDown(i), how, a, b, true));
     }
 }
