@@ -43,6 +43,28 @@ final class Doc {
         return all.substring(all.indexOf("`: ") + 3).trim();
     }
 
+    /** What stands in no quote, from the first line down to the promises, but for the face and the headings. */
+    String unquotedTerms() {
+        String rest = text.substring(text.indexOf("## What it is"), text.indexOf("## Promise 1:"));
+        rest = rest.replaceAll("```java .*?```", "").replaceAll("## (What it is|The public face|Terms) ", "");
+        List<String> longestFirst = new ArrayList<>(quotes);
+        longestFirst.sort((a, b) -> b.length() - a.length());
+        for (String quote : longestFirst) rest = rest.replace(quote, "");
+        return rest.replaceAll("```text|```", "").trim();
+    }
+
+    /** What the face has, as it stands in the document: its constant, its constructor, each method. */
+    List<String> face() {
+        Matcher block = Pattern.compile("```java (.*?)```").matcher(text);
+        if (!block.find()) throw new IllegalStateException("the document has no face");
+        List<String> members = new ArrayList<>();
+        String body = block.group(1);
+        for (String member : body.substring(body.indexOf('{') + 1, body.lastIndexOf('}')).split(";")) {
+            if (!member.isBlank()) members.add(member.trim());
+        }
+        return members;
+    }
+
     boolean says(String words) {
         quotes.add(words);
         return text.contains(words);

@@ -54,6 +54,12 @@ public final class LargeTest {
         new LargeTest("grid 5 5;stone 4 0;open 0 0 right;open 2 0 right;shut 0 1 right;open 2 1 right;open 1 2 right;"
                 + "shut 3 2 right;open 0 3 right;shut 2 3 right;open 3 3 right;open 1 1 down;shut 2 2 down;open 1 4 right;"
                 + "shut 0 2 down;open 3 1 down;").run();
+        new LargeTest("grid 5 4;open 0 0 right;shut 3 3 right;open 2 1 down;shut 1 2 down;open 4 0 down;shut 2 2 right;"
+                + "open 0 1 right;").run();
+        new LargeTest("grid 4 5;open 0 0 right;shut 2 3 right;open 2 1 down;shut 1 2 down;open 3 0 down;shut 2 2 right;"
+                + "open 0 3 down;").run();
+        new LargeTest("grid 5 5;stone 2 2;stone 0 4;stone 4 1;stone 1 0;shut 3 3 right;shut 0 3 right;open 3 0 right;"
+                + "open 2 3 down;").run();
     }
 
     private void run() {
